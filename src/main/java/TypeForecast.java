@@ -376,7 +376,7 @@ public final class TypeForecast {
             return count > 0 ? 0 : FINISH;
         }
 
-        /** Where a block of a statement begins; a loop's "second block" is what stands behind it. */
+        /** Where a block of a statement begins; for a loop, 1 is what stands behind it. */
         int entry(int s, int block) {
             int begin = first[2 * s + block];
             if (begin != NOWHERE) {
@@ -427,8 +427,12 @@ public final class TypeForecast {
         private static final int EDGE = 16;
         private static final int FAR = 1000;
 
-        private int low = FAR + 1;
-        private int high = -FAR - 1;
+        private int low;
+        private int high;
+
+        Range() {
+            clear();
+        }
 
         /** An empty range lies beyond all others, so that it never meets one in a comparison. */
         void clear() {
@@ -852,6 +856,8 @@ public final class TypeForecast {
         private final State passing = new State();
         private final boolean[] waiting = new boolean[MOST_STATEMENTS + 1];
         private final boolean[] alarms = new boolean[MOST_STATEMENTS * KINDS];
+        private int alarmCount;
+        private int statementsLooked = NOWHERE;
 
         Forecast(Program program, Expressions expressions) {
             this.program = program;
@@ -871,6 +877,11 @@ public final class TypeForecast {
 
         /** Answers the number of alarms. */
         int lookThrough() {
+            // A program without open blocks changes only by new statements.
+            if (statementsLooked == program.count) {
+                return alarmCount;
+            }
+            statementsLooked = program.count;
             forget();
             passing.unbindAll();
             flow(passing, program.start());
@@ -889,7 +900,8 @@ public final class TypeForecast {
                     }
                 }
             }
-            return countAlarms();
+            alarmCount = countAlarms();
+            return alarmCount;
         }
 
         private void forget() {

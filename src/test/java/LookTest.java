@@ -26,6 +26,7 @@ public final class LookTest {
         narrowingByEqual();
         narrowingLeavesOthersAlone();
         inputsAreAllNumbers();
+        variablesThatMayBeUnbound();
         CHECK.finish();
     }
 
@@ -554,6 +555,32 @@ public final class LookTest {
         at = branchOn(z, z.apply(4, w, v));
         CHECK.same("only the left variable", z.seen(at[0], 0), 7);
         numbers("the left variable", z, at[0], 1, 4, 4);
+    }
+
+    private static void variablesThatMayBeUnbound() {
+        TypeForecast x = new TypeForecast();
+        int input = x.leaf(4, 0);
+        int v = x.leaf(3, 0);
+        x.branch(input);
+        x.assign(0, x.leaf(0, 7));
+        x.end();
+        int copy = x.assign(1, v);
+        x.assign(2, x.apply(0, v, v));
+        CHECK.same("look", x.look(), 2);
+        CHECK.yes("it may be unbound", x.alarm(2, copy));
+        CHECK.same("it stays so", x.seen(-1, 0), 9);
+        CHECK.same("what holds its value is not", x.seen(-1, 1), 1);
+        CHECK.same("nor what was worked out of it", x.seen(-1, 2), 1);
+        numbers("its value", x, -1, 1, 7, 7);
+        x.attempt(2);
+        x.assign(1, x.leaf(3, 4));
+        int unreached = x.assign(3, v);
+        x.otherwise();
+        int caught = x.assign(3, input);
+        x.end();
+        CHECK.same("look", x.look(), 2);
+        CHECK.same("behind a variable that is only unbound", x.seen(unreached, 0), 0);
+        CHECK.same("its error", x.seen(caught, 4), 8);
     }
 
     private static void inputsAreAllNumbers() {

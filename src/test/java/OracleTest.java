@@ -63,8 +63,15 @@ public final class OracleTest {
             CHECK.same(name + "feed", x.feed(n) ? 1 : 0, r.feed(n) ? 1 : 0);
         }
         for (int v = 0; v < 5; v++) {
-            if (chance.nextInt(8) > 0) {
+            boolean later = chance.nextInt(4) == 0;
+            if (later) {
+                CHECK.same(name + "branch", x.branch(5), r.branch(5));
+            }
+            if (!rarely()) {
                 addAssign(v, leafLike(CUSTOM[v]));
+            }
+            if (later) {
+                CHECK.same(name + "end", x.end() ? 1 : 0, r.end() ? 1 : 0);
             }
         }
         int statements = 3 + chance.nextInt(40);
@@ -185,7 +192,7 @@ public final class OracleTest {
                 break;
             default:
                 int v = chance.nextInt(5);
-                addAssign(v, like(CUSTOM[v]));
+                addAssign(v, chance.nextInt(5) == 0 ? chance.nextInt(5) : like(CUSTOM[v]));
         }
     }
 
