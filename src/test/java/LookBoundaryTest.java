@@ -3,6 +3,10 @@ public final class LookBoundaryTest {
     private static final Check CHECK = new Check();
     private static final int MIN = Bench.MIN;
     private static final int MAX = Bench.MAX;
+    private static final String NO_ALARM =
+            "an alarm of this kind at this statement (false when there was none)";
+    private static final String NO_BOUND =
+            "99 when seen(statement, v) does not say that it may be of that type";
 
     public static void main(String[] args) {
         lookAtNoStatement();
@@ -64,6 +68,17 @@ public final class LookBoundaryTest {
         CHECK.same("nothing is behind", b.x.seen(-1, 0), 0);
         b.x.raise(4);
         CHECK.same("a third one that is not reached", b.x.look(), 1);
+
+        Bench c = new Bench();
+        int[] leaves = {c.none(), c.text(3), c.number(3), c.none(), c.input(), c.text(17)};
+        int[] types = {4, 2, 1, 4, 1, 2};
+        for (int i = 0; i < leaves.length; i++) {
+            c.x.assign(1, leaves[i]);
+            CHECK.same("look()", c.x.look(), 0);
+            CHECK.same("only what was assigned last", c.x.seen(-1, 1), types[i]);
+            CHECK.same("before the program", c.x.seen(0, 1), 8);
+            CHECK.same("another variable", c.x.seen(-1, 2), 8);
+        }
     }
 
     private static void lookCountsAKindAtAStatementOnce() {
@@ -143,7 +158,8 @@ public final class LookBoundaryTest {
             x.raise(raised);
             x.look();
             for (int kind = 1; kind <= 4; kind++) {
-                CHECK.same(kind + " for " + raised, x.alarm(kind, 0) ? 1 : 0, kind == raised ? 1 : 0);
+                boolean alarm = x.alarm(kind, 0);
+                CHECK.same(kind + " for " + raised, alarm ? 1 : 0, kind == raised ? 1 : 0);
             }
         }
     }
@@ -217,7 +233,7 @@ public final class LookBoundaryTest {
     }
 
     private static void alarmOfNoKind() {
-        CHECK.sentence("promise 14", "an alarm of this kind at this statement (false when there was none)");
+        CHECK.sentence("promise 14", NO_ALARM);
         TypeForecast x = new TypeForecast();
         x.attempt(1);
         x.raise(4);
@@ -233,7 +249,7 @@ public final class LookBoundaryTest {
     }
 
     private static void alarmOfNoStatement() {
-        CHECK.sentence("promise 14", "an alarm of this kind at this statement (false when there was none)");
+        CHECK.sentence("promise 14", NO_ALARM);
         TypeForecast x = new TypeForecast();
         CHECK.no("no statement at all", x.alarm(1, 0));
         x.raise(1);
@@ -279,7 +295,8 @@ public final class LookBoundaryTest {
     }
 
     private static void seenOfEachType() {
-        CHECK.sentence("promise 15", "1 for a number, plus 2 for a text, plus 4 for none, plus 8 for unbound");
+        CHECK.sentence("promise 15",
+                "1 for a number, plus 2 for a text, plus 4 for none, plus 8 for unbound");
         for (int types = 1; types < 16; types++) {
             Bench b = new Bench();
             int[] leaves = {b.number(0), b.text(0), b.none()};
@@ -395,8 +412,9 @@ public final class LookBoundaryTest {
     }
 
     private static void boundOfEachSide() {
-        CHECK.sentence("promise 16", "which = 0 the low one, 1 the high one of its numbers, 2 the low"
-                + " one, 3 the high one of the lengths of its texts");
+        CHECK.sentence("promise 16",
+                "which = 0 the low one, 1 the high one of its numbers, 2 the low one, 3"
+                        + " the high one of the lengths of its texts");
         Bench b = new Bench();
         b.oneOf(2, b.number(-3), b.number(5), b.text(2), b.text(7));
         int mark = b.x.assign(1, b.none());
@@ -408,7 +426,7 @@ public final class LookBoundaryTest {
     }
 
     private static void boundOfAnotherType() {
-        CHECK.sentence("promise 16", "99 when seen(statement, v) does not say that it may be of that type");
+        CHECK.sentence("promise 16", NO_BOUND);
         Bench b = new Bench();
         b.x.assign(0, b.number(16));
         b.x.assign(1, b.text(16));
@@ -423,7 +441,7 @@ public final class LookBoundaryTest {
     }
 
     private static void boundWhereNothingIsReached() {
-        CHECK.sentence("promise 16", "99 when seen(statement, v) does not say that it may be of that type");
+        CHECK.sentence("promise 16", NO_BOUND);
         Bench b = new Bench();
         b.x.assign(0, b.number(1));
         int raise = b.x.raise(1);
@@ -435,7 +453,7 @@ public final class LookBoundaryTest {
     }
 
     private static void boundWithoutLook() {
-        CHECK.sentence("promise 16", "99 when seen(statement, v) does not say that it may be of that type");
+        CHECK.sentence("promise 16", NO_BOUND);
         Bench b = new Bench();
         bounds("no statement, no look", b.x, -1, 0, 99, 99, 99, 99);
         b.x.look();
@@ -449,7 +467,7 @@ public final class LookBoundaryTest {
     }
 
     private static void boundOfALaterStatement() {
-        CHECK.sentence("promise 16", "99 when seen(statement, v) does not say that it may be of that type");
+        CHECK.sentence("promise 16", NO_BOUND);
         Bench b = new Bench();
         b.x.assign(0, b.number(1));
         b.x.look();
@@ -462,7 +480,7 @@ public final class LookBoundaryTest {
     }
 
     private static void boundOfNoVariableOrStatement() {
-        CHECK.sentence("promise 16", "99 when seen(statement, v) does not say that it may be of that type");
+        CHECK.sentence("promise 16", NO_BOUND);
         Bench b = new Bench();
         b.oneOf(0, b.number(1), b.text(1));
         b.oneOf(4, b.number(1), b.text(1));

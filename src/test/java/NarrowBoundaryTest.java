@@ -18,13 +18,15 @@ public final class NarrowBoundaryTest {
         narrowedByEqual();
         narrowedByOneValueOfMany();
         narrowedWithoutAnError();
+        narrowedToTheTypeOfTheRightPart();
         narrowedInLoops();
         CHECK.finish();
     }
 
     private static void conditionsThatNarrowNothing() {
-        CHECK.sentence("terms of promises 15 and 16", "only a condition that is a variable, or LESS"
-                + " or EQUAL with a variable as left part, changes the state");
+        CHECK.sentence("terms of promises 15 and 16",
+                "only a condition that is a variable, or LESS or EQUAL with a variable"
+                        + " as left part, changes the state");
         for (int which = 0; which < 8; which++) {
             Bench b = new Bench();
             b.oneOf(0, b.number(-9), b.number(9));
@@ -87,8 +89,8 @@ public final class NarrowBoundaryTest {
     }
 
     private static void narrowedByItself() {
-        CHECK.sentence("terms of promises 15 and 16", "fits those of its values for which the"
-                + " condition is true (for false: not true)");
+        CHECK.sentence("terms of promises 15 and 16",
+                "fits those of its values for which the condition is true (for false: not true)");
         int[][] due = {{0, 16, 1, 16}, {-16, 0, -16, -1}, {0, 17, 1, HIGH}, {-17, 0, LOW, -1},
             {-1, 1, -1, 1}, {0, 1, 1, 1}, {-1, 0, -1, -1}, {-17, 17, LOW, HIGH}};
         for (int[] d : due) {
@@ -125,8 +127,9 @@ public final class NarrowBoundaryTest {
     }
 
     private static void narrowedByLess() {
-        CHECK.sentence("terms of promises 15 and 16", "its picture becomes the one that fits those of"
-                + " its values for which the condition is true (for false: not true)");
+        CHECK.sentence("terms of promises 15 and 16",
+                "its picture becomes the one that fits those of its values for which"
+                        + " the condition is true (for false: not true)");
         narrows(4, -17, 17, -16, new int[] {LOW, -16, -16, HIGH});
         narrows(4, -17, 17, -15, new int[] {LOW, -16, -15, HIGH});
         narrows(4, -17, 17, 0, new int[] {LOW, -1, 0, HIGH});
@@ -145,8 +148,9 @@ public final class NarrowBoundaryTest {
     }
 
     private static void narrowedByLessOfLengths() {
-        CHECK.sentence("terms of promises 15 and 16", "its picture becomes the one that fits those of"
-                + " its values for which the condition is true (for false: not true)");
+        CHECK.sentence("terms of promises 15 and 16",
+                "its picture becomes the one that fits those of its values for which"
+                        + " the condition is true (for false: not true)");
         int[][] due = {{0, 99, 99, 0, HIGH}, {1, 0, 0, 1, HIGH}, {16, 0, 15, 16, HIGH},
             {17, 0, HIGH, 16, HIGH}};
         for (int[] d : due) {
@@ -163,8 +167,9 @@ public final class NarrowBoundaryTest {
     }
 
     private static void narrowedByEqual() {
-        CHECK.sentence("terms of promises 15 and 16", "its picture becomes the one that fits those of"
-                + " its values for which the condition is true (for false: not true)");
+        CHECK.sentence("terms of promises 15 and 16",
+                "its picture becomes the one that fits those of its values for which"
+                        + " the condition is true (for false: not true)");
         narrows(5, 0, 16, 16, new int[] {16, 16, 0, 15});
         narrows(5, -16, 0, -16, new int[] {-16, -16, -15, 0});
         narrows(5, -16, 0, 0, new int[] {0, 0, -16, -1});
@@ -206,6 +211,17 @@ public final class NarrowBoundaryTest {
         CHECK.numbers("one of 3 .. 5", b.x, same[0], 0, 3, 5);
         CHECK.numbers("each differs from one of 3 .. 5", b.x, same[1], 0, 0, 9);
 
+        Bench t = new Bench();
+        t.oneOf(0, t.text(0), t.text(9));
+        t.oneOf(1, t.text(3), t.text(5));
+        less = t.fork(t.less(t.variable(0), t.variable(1)));
+        same = t.fork(t.equal(t.variable(0), t.variable(1)));
+        t.x.look();
+        CHECK.lengths("shorter than one of 3 .. 5", t.x, less[0], 0, 0, 4);
+        CHECK.lengths("not shorter than one of 3 .. 5", t.x, less[1], 0, 3, 9);
+        CHECK.lengths("as long as one of 3 .. 5", t.x, same[0], 0, 3, 5);
+        CHECK.lengths("each differs from one of 3 .. 5", t.x, same[1], 0, 0, 9);
+
         Bench c = new Bench();
         c.x.assign(0, c.number(3));
         c.oneOf(1, c.number(3), c.none());
@@ -246,6 +262,32 @@ public final class NarrowBoundaryTest {
         c.x.look();
         CHECK.same("2 is not less than 2, nor 4 than 4", c.x.seen(at[0], 0), 0);
         CHECK.same("numbers or texts, but not none", c.x.seen(at[1], 0), 3);
+    }
+
+    private static void narrowedToTheTypeOfTheRightPart() {
+        CHECK.sentence("terms of promises 15 and 16", "without an error");
+        for (int kind = 0; kind < 2; kind++) {
+            Bench b = new Bench();
+            b.oneOf(0, b.input(), b.text(0), b.text(17));
+            int[] at = b.fork(b.less(b.variable(0), b.x.leaf(kind, 4)));
+            b.x.look();
+            for (int block = 0; block < 2; block++) {
+                CHECK.same("against kind " + kind + ", block " + block, b.x.seen(at[block], 0),
+                        kind == 0 ? 1 : 2);
+            }
+        }
+        Bench c = new Bench();
+        c.oneOf(0, c.number(3), c.text(5));
+        c.oneOf(1, c.number(9), c.text(5));
+        c.x.branch(c.equal(c.variable(0), c.variable(1)));
+        int first = c.x.assign(2, c.none());
+        c.x.otherwise();
+        c.x.assign(0, c.number(12));
+        c.x.end();
+        c.x.look();
+        CHECK.same("3 is not 9", c.x.seen(first, 0), 2);
+        CHECK.numbers("a type that was taken away has no bounds to join", c.x, -1, 0, 12, 12);
+        CHECK.lengths("the type that was left", c.x, -1, 0, 5, 5);
     }
 
     private static void narrowedInLoops() {

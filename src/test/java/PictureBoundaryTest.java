@@ -32,6 +32,8 @@ public final class PictureBoundaryTest {
         comparisonsOfLengths();
         equality();
         truthAndLength();
+        typesThatOnlyOnePartHas();
+        expressionThatStandsInTwoStatements();
         picturesOfSeveralTypes();
         joinedTypes();
         joinedBounds();
@@ -43,14 +45,16 @@ public final class PictureBoundaryTest {
         Bench b = new Bench();
         b.x.assign(0, b.x.apply(operation, b.number(left), b.number(right)));
         b.x.look();
-        CHECK.numbers("operation " + operation + " of " + left + " and " + right, b.x, -1, 0, low, high);
+        String what = "operation " + operation + " of " + left + " and " + right;
+        CHECK.numbers(what, b.x, -1, 0, low, high);
         CHECK.same("and no other type", b.x.seen(-1, 0), 1);
     }
 
     private static void boundsOfOneNumber() {
-        CHECK.sentence("terms of promise 16", "low is -17 if they have no least one or it is below"
-                + " -16, 16 if it is above 16, otherwise it; high is 17 if they have no greatest one"
-                + " or it is above 16, -16 if it is below -16, otherwise it");
+        CHECK.sentence("terms of promise 16",
+                "low is -17 if they have no least one or it is below -16, 16 if it is"
+                        + " above 16, otherwise it; high is 17 if they have no greatest one or it"
+                        + " is above 16, -16 if it is below -16, otherwise it");
         int[][] due = {{-BIG, LOW, -16}, {-18, LOW, -16}, {-17, LOW, -16}, {-16, -16, -16},
             {-15, -15, -15}, {-1, -1, -1}, {0, 0, 0}, {1, 1, 1}, {15, 15, 15}, {16, 16, 16},
             {17, 16, HIGH}, {18, 16, HIGH}, {BIG, 16, HIGH}};
@@ -76,8 +80,9 @@ public final class PictureBoundaryTest {
     }
 
     private static void boundsThatAreNotThere() {
-        CHECK.sentence("terms of promise 16", "A low bound -17 says that there is no low bound, a"
-                + " high bound 17 that there is no high bound");
+        CHECK.sentence("terms of promise 16",
+                "A low bound -17 says that there is no low bound, a high bound 17 that"
+                        + " there is no high bound");
         Bench b = new Bench();
         int one = b.number(1);
         int up = b.variable(0);
@@ -105,7 +110,8 @@ public final class PictureBoundaryTest {
     }
 
     private static void boundsBelongToTheRange() {
-        CHECK.sentence("terms of promise 16", "other bounds are -16 .. 16, and belong to the range");
+        CHECK.sentence("terms of promise 16",
+                "other bounds are -16 .. 16, and belong to the range");
         for (int n : new int[] {-16, -1, 0, 1, 16}) {
             Bench b = new Bench();
             int v = b.variable(0);
@@ -135,8 +141,9 @@ public final class PictureBoundaryTest {
     }
 
     private static void highBoundOfResults() {
-        CHECK.sentence("terms of promise 16", "high is 17 if they have no greatest one or it is"
-                + " above 16, -16 if it is below -16");
+        CHECK.sentence("terms of promise 16",
+                "high is 17 if they have no greatest one or it is above 16, -16 if it"
+                        + " is below -16");
         int[][] cases = {{-16, 16, 1}, {-16, 16, 2}, {-17, 0, 0}, {0, 17, 0}, {-3, 5, 3},
             {-3, 5, 4}, {-2, 8, 2}};
         int[][] due = {{-16, 16}, {LOW, HIGH}, {0, 0}, {0, 0}, {-9, 15}, {-12, HIGH}, {-4, 16}};
@@ -190,8 +197,9 @@ public final class PictureBoundaryTest {
     }
 
     private static void leavesInPictures() {
-        CHECK.sentence("terms of promises 15 and 16", "a number or text has the picture that fits it"
-                + " alone; none that of none alone; an input that of all numbers");
+        CHECK.sentence("terms of promises 15 and 16",
+                "a number or text has the picture that fits it alone; none that of none"
+                        + " alone; an input that of all numbers");
         Bench b = new Bench();
         b.x.feed(3);
         b.x.assign(0, b.number(-4));
@@ -229,8 +237,9 @@ public final class PictureBoundaryTest {
     }
 
     private static void partsWithoutValue() {
-        CHECK.sentence("terms of promises 13 and 14", "when a part stands for no value at all,"
-                + " nothing more is done and the operation stands for none");
+        CHECK.sentence("terms of promises 13 and 14",
+                "when a part stands for no value at all, nothing more is done and the"
+                        + " operation stands for none");
         for (int operation = 0; operation < 8; operation++) {
             Bench b = new Bench();
             int zero = b.number(0);
@@ -246,8 +255,9 @@ public final class PictureBoundaryTest {
     }
 
     private static void rightPartWithoutValue() {
-        CHECK.sentence("terms of promises 13 and 14", "when a part stands for no value at all,"
-                + " nothing more is done and the operation stands for none");
+        CHECK.sentence("terms of promises 13 and 14",
+                "when a part stands for no value at all, nothing more is done and the"
+                        + " operation stands for none");
         for (int operation = 0; operation < 6; operation++) {
             Bench b = new Bench();
             int s = b.x.assign(1, b.x.apply(operation, b.none(), b.variable(0)));
@@ -259,8 +269,9 @@ public final class PictureBoundaryTest {
     }
 
     private static void errorsOfPartsAndPairs() {
-        CHECK.sentence("terms of promises 13 and 14", "those of its parts that were worked out, and"
-                + " those that the operation raises for at least one pair of values");
+        CHECK.sentence("terms of promises 13 and 14",
+                "those of its parts that were worked out, and those that the operation"
+                        + " raises for at least one pair of values");
         Bench b = new Bench();
         int none = b.none();
         b.oneOf(0, b.number(0), none);
@@ -334,6 +345,19 @@ public final class PictureBoundaryTest {
         CHECK.numbers("all numbers times 0", b.x, -1, 0, 0, 0);
         CHECK.numbers("all numbers times all numbers", b.x, -1, 1, LOW, HIGH);
         CHECK.numbers("all numbers times -1", b.x, -1, 2, LOW, HIGH);
+        int[][] ranges = {{-5, 1, -3, 2}, {-1, 5, -3, 2}, {-1, 5, -2, 3}, {-5, 1, -2, 3},
+            {-17, 0, -1, 0}, {0, 17, -1, 0}};
+        int[][] due = {{-10, 15}, {-15, 10}, {-10, 15}, {-15, 10}, {0, HIGH}, {LOW, 0}};
+        for (int i = 0; i < ranges.length; i++) {
+            Bench c = new Bench();
+            int[] r = ranges[i];
+            c.oneOf(0, c.number(r[0]), c.number(r[1]));
+            c.oneOf(1, c.number(r[2]), c.number(r[3]));
+            c.x.assign(2, c.multiply(c.variable(0), c.variable(1)));
+            c.x.look();
+            CHECK.numbers(r[0] + " .. " + r[1] + " times " + r[2] + " .. " + r[3], c.x, -1, 2,
+                    due[i][0], due[i][1]);
+        }
     }
 
     private static void quotients() {
@@ -385,8 +409,8 @@ public final class PictureBoundaryTest {
         Bench b = new Bench();
         b.x.assign(0, b.x.apply(operation, b.text(left), b.text(right)));
         b.x.look();
-        CHECK.numbers("operation " + operation + " of lengths " + left + " and " + right, b.x, -1, 0, low,
-                high);
+        String what = "operation " + operation + " of lengths " + left + " and " + right;
+        CHECK.numbers(what, b.x, -1, 0, low, high);
     }
 
     private static void comparisonsOfLengths() {
@@ -423,6 +447,15 @@ public final class PictureBoundaryTest {
         CHECK.numbers("none and none", b.x, -1, 1, 1, 1);
         CHECK.numbers("number 0 and text 0", b.x, -1, 2, 0, 0);
         CHECK.numbers("none or 0, and none", b.x, -1, 3, 0, 1);
+        Bench c = new Bench();
+        int lone = c.none();
+        c.x.assign(0, c.equal(lone, c.number(0)));
+        c.x.assign(1, c.equal(c.text(0), lone));
+        c.x.assign(2, c.equal(c.input(), lone));
+        c.x.look();
+        CHECK.numbers("none and a number", c.x, -1, 0, 0, 0);
+        CHECK.numbers("a text and none", c.x, -1, 1, 0, 0);
+        CHECK.numbers("all numbers and none", c.x, -1, 2, 0, 0);
     }
 
     private static void truthAndLength() {
@@ -450,9 +483,56 @@ public final class PictureBoundaryTest {
         CHECK.numbers("NOT of -1 .. 1", c.x, -1, 3, 0, 1);
     }
 
+    private static void typesThatOnlyOnePartHas() {
+        CHECK.sentence("terms of promise 16", RESULTS);
+        int[][] due = {{5, 3, 0, 0}, {3, 5, 1, 1}, {4, 4, 0, 0}};
+        for (int[] d : due) {
+            Bench b = new Bench();
+            b.oneOf(0, b.input(), b.text(d[1]));
+            b.oneOf(1, b.input(), b.text(d[0]));
+            b.x.assign(2, b.less(b.text(d[0]), b.variable(0)));
+            b.x.assign(3, b.less(b.variable(1), b.text(d[1])));
+            b.x.look();
+            String what = "lengths " + d[0] + " and " + d[1];
+            CHECK.numbers(what + ", numbers on the right", b.x, -1, 2, d[2], d[3]);
+            CHECK.numbers(what + ", numbers on the left", b.x, -1, 3, d[2], d[3]);
+        }
+        Bench c = new Bench();
+        c.oneOf(0, c.input(), c.text(0), c.text(17));
+        c.x.assign(1, c.add(c.variable(0), c.number(1)));
+        c.x.assign(2, c.add(c.variable(0), c.text(1)));
+        c.x.assign(3, c.equal(c.variable(0), c.none()));
+        c.x.look();
+        CHECK.same("numbers and a number", c.x.seen(-1, 1), 1);
+        CHECK.same("texts and a text", c.x.seen(-1, 2), 2);
+        CHECK.lengths("texts and a text", c.x, -1, 2, 1, HIGH);
+        CHECK.numbers("neither is none", c.x, -1, 3, 0, 0);
+    }
+
+    private static void expressionThatStandsInTwoStatements() {
+        CHECK.sentence("terms of promise 15",
+                "The picture that FITS a set of values has the types that are in the set");
+        Bench b = new Bench();
+        int v = b.variable(0);
+        int sum = b.add(v, v);
+        b.x.assign(0, b.text(2));
+        b.x.assign(1, sum);
+        b.x.assign(0, b.number(9));
+        b.x.assign(2, sum);
+        b.x.assign(0, b.text(1));
+        b.x.assign(3, sum);
+        CHECK.same("look()", b.x.look(), 0);
+        CHECK.same("of a text", b.x.seen(-1, 1), 2);
+        CHECK.same("of a number, later", b.x.seen(-1, 2), 1);
+        CHECK.numbers("of a number, later", b.x, -1, 2, 16, HIGH);
+        CHECK.same("of a text again", b.x.seen(-1, 3), 2);
+        CHECK.lengths("of a text again", b.x, -1, 3, 2, 2);
+    }
+
     private static void picturesOfSeveralTypes() {
-        CHECK.sentence("terms of promises 13 to 16", "those that the operation raises for at least one"
-                + " pair of values, one of each part's picture");
+        CHECK.sentence("terms of promises 13 to 16",
+                "those that the operation raises for at least one pair of values, one"
+                        + " of each part's picture");
         Bench b = new Bench();
         b.oneOf(0, b.number(3), b.text(5), b.none());
         int v = b.variable(0);
@@ -495,8 +575,9 @@ public final class PictureBoundaryTest {
     }
 
     private static void joinedBounds() {
-        CHECK.sentence("terms of promise 16", "the bounds are the least low bound and the greatest"
-                + " high bound of those that have the type");
+        CHECK.sentence("terms of promise 16",
+                "the bounds are the least low bound and the greatest high bound of"
+                        + " those that have the type");
         int[][] due = {{3, 3, 3, 3}, {3, 5, 3, 5}, {5, 3, 3, 5}, {-16, 16, -16, 16},
             {-17, 0, LOW, 0}, {0, 17, 0, HIGH}, {16, 17, 16, HIGH}, {-16, -17, LOW, -16},
             {-17, 17, LOW, HIGH}, {-1, 1, -1, 1}};

@@ -257,7 +257,8 @@ public final class RefusalTest {
         }
         int[][] assigns = {{-1, 0}, {5, 0}, {0, -1}, {0, 60}};
         for (int[] c : assigns) {
-            all.add(refused(4, "assign(" + c[0] + ", " + c[1] + ")", -1, x -> x.assign(c[0], c[1])));
+            all.add(refused(4, "assign(" + c[0] + ", " + c[1] + ")", -1,
+                    x -> x.assign(c[0], c[1])));
         }
         for (int kind : new int[] {0, 5}) {
             all.add(refused(5, "raise(" + kind + ")", -1, x -> x.raise(kind)));

@@ -29,6 +29,7 @@ public final class RunBoundaryTest {
         outChangesNothing();
         answerOfTheEnd();
         answerOfAnError();
+        answerWhenOut();
         placeOfAnError();
         placeOfAStepNotMade();
         placeOfAnOperation();
@@ -98,7 +99,8 @@ public final class RunBoundaryTest {
     }
 
     private static void limitOfOneStep() {
-        CHECK.sentence("promise 17", "When more steps would be made than limit, the run is OUT before that step");
+        CHECK.sentence("promise 17",
+                "When more steps would be made than limit, the run is OUT before that step");
         Bench b = new Bench();
         b.x.assign(0, b.number(4));
         CHECK.same("one step in one", b.x.run(1), 0);
@@ -122,7 +124,8 @@ public final class RunBoundaryTest {
     }
 
     private static void limitThousand() {
-        CHECK.sentence("promise 17", "refused with -1 when a statement is open or limit is not 0 .. 1000");
+        CHECK.sentence("promise 17",
+                "refused with -1 when a statement is open or limit is not 0 .. 1000");
         Bench b = counting(499);
         CHECK.same("thousand steps in 1000", b.x.run(1000), 0);
         CHECK.same("number(0)", b.x.number(0), 499);
@@ -296,7 +299,8 @@ public final class RunBoundaryTest {
     }
 
     private static void outBeforeThatStep() {
-        CHECK.sentence("promise 17", "When more steps would be made than limit, the run is OUT before that step");
+        CHECK.sentence("promise 17",
+                "When more steps would be made than limit, the run is OUT before that step");
         Bench b = counting(3);
         int[] numbers = {0, 0, 0, 1, 1, 2, 2, 3};
         int[] places = {0, 1, 2, 1, 2, 1, 2, 1};
@@ -341,8 +345,9 @@ public final class RunBoundaryTest {
     }
 
     private static void numbersThatAreTooLarge() {
-        CHECK.sentence("promise 17", "when an operation gives a number not from -1000000000 to"
-                + " 1000000000, or a text longer than 1000000000, the run is OUT there");
+        CHECK.sentence("promise 17",
+                "when an operation gives a number not from -1000000000 to 1000000000,"
+                        + " or a text longer than 1000000000, the run is OUT there");
         isOut(0, 0, BIG, 1);
         isOut(0, 0, 1, BIG);
         isOut(0, 0, -BIG, -1);
@@ -513,6 +518,22 @@ public final class RunBoundaryTest {
                 CHECK.same("error " + kind + " at " + at, x.run(24), 100 * kind + at);
             }
         }
+    }
+
+    private static void answerWhenOut() {
+        CHECK.sentence("promise 17", "-2 when the run is out");
+        Bench b = new Bench();
+        b.x.assign(0, b.number(BIG));
+        b.x.assign(0, b.add(b.variable(0), b.input()));
+        b.x.raise(4);
+        CHECK.same("before the first step", b.x.run(0), -2);
+        CHECK.same("before the second step", b.x.run(1), -2);
+        CHECK.same("before the third step", b.x.run(2), -2);
+        CHECK.same("an error in the third step", b.x.run(3), 402);
+        b.x.feed(1);
+        CHECK.same("in an operation of the second step", b.x.run(2), -2);
+        CHECK.same("and before the third one", b.x.run(3), -2);
+        CHECK.same("place()", b.x.place(), 1);
     }
 
     private static void placeOfAnError() {
@@ -687,8 +708,9 @@ public final class RunBoundaryTest {
     }
 
     private static void numberOfEach() {
-        CHECK.sentence("promise 20", "The number, or the length of the text, that variable v held at"
-                + " the end of the latest run");
+        CHECK.sentence("promise 20",
+                "The number, or the length of the text, that variable v held at the end"
+                        + " of the latest run");
         int[][] leaves = {{0, BIG}, {0, -BIG}, {0, 1}, {0, -1}, {0, 0}, {1, 0}, {1, 1}, {1, BIG}};
         for (int[] leaf : leaves) {
             for (int v = 0; v < 5; v++) {

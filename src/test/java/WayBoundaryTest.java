@@ -26,6 +26,7 @@ public final class WayBoundaryTest {
         errorsWithTheStateBefore();
         errorsOfALoopsCondition();
         errorsThatAreAlarms();
+        statesThatComeTogether();
         leastStates();
         CHECK.finish();
     }
@@ -74,8 +75,8 @@ public final class WayBoundaryTest {
     }
 
     private static void assignOfAValue() {
-        CHECK.sentence("terms of promises 15 and 16", "what is behind has this picture for the"
-                + " variable, which can't be unbound then");
+        CHECK.sentence("terms of promises 15 and 16",
+                "what is behind has this picture for the variable, which can't be unbound then");
         Bench b = new Bench();
         b.oneOf(0, b.number(-3), b.text(3));
         b.perhaps(1, b.number(5));
@@ -107,8 +108,9 @@ public final class WayBoundaryTest {
     }
 
     private static void behindRaiseBreakContinue() {
-        CHECK.sentence("terms of promises 13 and 15", "RAISE: its error may be raised, and nothing is"
-                + " reached behind it; nor is behind BREAK and CONTINUE.");
+        CHECK.sentence("terms of promises 13 and 15",
+                "RAISE: its error may be raised, and nothing is reached behind it; nor"
+                        + " is behind BREAK and CONTINUE.");
         for (int which = 0; which < 3; which++) {
             Bench b = new Bench();
             b.x.loop(b.input());
@@ -163,8 +165,9 @@ public final class WayBoundaryTest {
     }
 
     private static void branchThatMayBeBoth() {
-        CHECK.sentence("terms of promise 15", "A branch's first block is reached, with the state"
-                + " before the branch NARROWED to true");
+        CHECK.sentence("terms of promise 15",
+                "A branch's first block is reached, with the state before the branch"
+                        + " NARROWED to true");
         int[][] both = {{0, 0, 0, 1}, {0, -1, 0, 0}, {0, -1, 0, 1}, {1, 0, 1, 1}, {2, 0, 0, 1},
             {2, 0, 1, 1}, {0, 0, 1, 1}, {1, 0, 0, 1}};
         for (int[] c : both) {
@@ -213,9 +216,10 @@ public final class WayBoundaryTest {
     }
 
     private static void beforeALoop() {
-        CHECK.sentence("terms of promises 15 and 16", "The state before a loop is the join of all"
-                + " states in which its condition is worked out: from before it, from the end of its"
-                + " block, from each CONTINUE.");
+        CHECK.sentence("terms of promises 15 and 16",
+                "The state before a loop is the join of all states in which its"
+                        + " condition is worked out: from before it, from the end of its block,"
+                        + " from each CONTINUE.");
         Bench b = new Bench();
         int input = b.input();
         b.x.assign(0, b.number(1));
@@ -241,7 +245,8 @@ public final class WayBoundaryTest {
     }
 
     private static void behindALoop() {
-        CHECK.sentence("terms of promises 15 and 16", "Behind a loop: also the states at each BREAK.");
+        CHECK.sentence("terms of promises 15 and 16",
+                "Behind a loop: also the states at each BREAK.");
         Bench b = new Bench();
         int input = b.input();
         b.x.assign(0, b.number(1));
@@ -304,8 +309,9 @@ public final class WayBoundaryTest {
     }
 
     private static void errorsWithTheStateBefore() {
-        CHECK.sentence("terms of promises 15 and 16", "Each error that may be raised in a statement"
-                + " goes, with the state before that statement");
+        CHECK.sentence("terms of promises 15 and 16",
+                "Each error that may be raised in a statement goes, with the state"
+                        + " before that statement");
         Bench b = new Bench();
         b.x.assign(0, b.number(7));
         b.x.attempt(3);
@@ -346,9 +352,9 @@ public final class WayBoundaryTest {
     }
 
     private static void errorsThatAreAlarms() {
-        CHECK.sentence("terms of promises 13 to 15", "to the beginning of the second block of the"
-                + " innermost TRY that catches it, which is reached then; if there is none, it is an"
-                + " ALARM");
+        CHECK.sentence("terms of promises 13 to 15",
+                "to the beginning of the second block of the innermost TRY that catches"
+                        + " it, which is reached then; if there is none, it is an ALARM");
         Bench b = new Bench();
         b.x.attempt(1);
         b.x.attempt(3);
@@ -381,6 +387,31 @@ public final class WayBoundaryTest {
         CHECK.same("error 1 does not pass the inner one", c.x.seen(outer, 2), 8);
     }
 
+    private static void statesThatComeTogether() {
+        CHECK.sentence("terms of promises 15 and 16", "States that come together are joined");
+        Bench b = new Bench();
+        int quotient = b.divide(b.number(1), b.input());
+        b.x.attempt(0);
+        b.x.assign(0, b.number(-17));
+        b.x.assign(1, quotient);
+        b.x.assign(0, b.number(4));
+        b.x.branch(quotient);
+        b.x.assign(0, b.text(17));
+        b.x.raise(4);
+        b.x.end();
+        b.x.assign(0, b.none());
+        b.x.otherwise();
+        int caught = b.x.assign(2, b.none());
+        b.x.end();
+        CHECK.same("look()", b.x.look(), 0);
+        CHECK.same("two quotients and RAISE", b.x.seen(caught, 0), 3);
+        CHECK.numbers("before the one or the other quotient", b.x, caught, 0, LOW, 4);
+        CHECK.lengths("before RAISE", b.x, caught, 0, 16, HIGH);
+        CHECK.same("bound behind the first quotient", b.x.seen(caught, 1), 9);
+        CHECK.same("behind the TRY", b.x.seen(-1, 0), 7);
+        CHECK.same("only the second block binds it", b.x.seen(-1, 2), 12);
+    }
+
     private static void leastStates() {
         CHECK.sentence("terms of promises 15 and 16",
                 "all states are the least ones for which all this holds");
@@ -391,7 +422,7 @@ public final class WayBoundaryTest {
         int inside = b.x.assign(0, b.add(v, b.number(2)));
         b.x.end();
         CHECK.same("look()", b.x.look(), 0);
-        CHECK.numbers("it grows to 17 and no further, which shows as no bound", b.x, loop, 0, 0, HIGH);
+        CHECK.numbers("it grows to 17, which shows as no bound", b.x, loop, 0, 0, HIGH);
         CHECK.numbers("in the block", b.x, inside, 0, 0, 15);
         CHECK.numbers("behind", b.x, -1, 0, 16, HIGH);
 
