@@ -18,7 +18,7 @@ public final class OracleTest {
     private static long placesReached;
 
     private final Random chance;
-    private final TypeForecast x = new TypeForecast();
+    private final Subject x = new Subject();
     private final Reference r = new Reference();
     private final String name;
     private final List<Integer> hints = new ArrayList<>();

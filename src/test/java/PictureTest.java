@@ -16,7 +16,7 @@ public final class PictureTest {
         {4, 0, 1, 1, 1, 17}, {0, 2, 1, 2, 1, 6}, {0, 16, 0, 17, 2, 0}, {1, 0, 1, 3, 2, 0},
     };
 
-    private final TypeForecast x = new TypeForecast();
+    private final Subject x = new Subject();
     private final Reference r = new Reference();
     private final String name;
 

@@ -18,9 +18,15 @@ public final class RefusalTest {
 
     private record Refused(int promise, String name, int due, Call call) { }
 
-    private interface Scene {
-        void play(Actor a);
+    private interface Play {
+        void on(Actor a);
     }
+
+    /**
+     * Calls that come before the refused one: they leave so many statements open, and if it is
+     * growing, one more can be added that uses expression 0.
+     */
+    private record Scene(String name, int open, boolean growing, Play play) { }
 
     /** Makes calls and keeps the answers. */
     private static final class Actor {
@@ -35,6 +41,33 @@ public final class RefusalTest {
             answers.add(answer ? 1 : 0);
         }
     }
+
+    private static final Scene NOTHING =
+            new Scene("new object", 0, false, RefusalTest::nothing);
+    private static final Scene CLOSED =
+            new Scene("nothing open", 0, true, RefusalTest::closed);
+    private static final Scene FIRST_BLOCK =
+            new Scene("first block open", 1, true, RefusalTest::firstBlock);
+    private static final Scene EMPTY_FIRST_BLOCK =
+            new Scene("empty first block open", 1, true, RefusalTest::emptyFirstBlock);
+    private static final Scene SECOND_BLOCK =
+            new Scene("second block open", 1, true, RefusalTest::secondBlock);
+    private static final Scene IN_LOOP =
+            new Scene("loop open", 1, true, RefusalTest::inLoop);
+    private static final Scene LOOP_IN_FIRST_BLOCK =
+            new Scene("loop in a first block open", 2, true, RefusalTest::loopInFirstBlock);
+    private static final Scene FIVE_OPEN =
+            new Scene("five open", 5, true, RefusalTest::fiveOpen);
+    private static final Scene FULL =
+            new Scene("24 statements", 0, false, RefusalTest::fullClosed);
+    private static final Scene FULL_IN_LOOP =
+            new Scene("24 statements, loop open", 1, false, RefusalTest::fullInLoop);
+    private static final Scene SIXTY_EXPRESSIONS =
+            new Scene("60 expressions", 0, true, RefusalTest::sixtyExpressions);
+    private static final Scene EIGHT_INPUTS =
+            new Scene("eight inputs", 0, true, RefusalTest::eightInputs);
+    private static final Scene HEAVY =
+            new Scene("heavy expressions", 0, true, RefusalTest::heavyExpressions);
 
     public static void main(String[] args) {
         inEachScene();
@@ -145,9 +178,10 @@ public final class RefusalTest {
     }
 
     private static void eightInputs(Actor a) {
-        closed(a);
-        for (int i = 2; i < 8; i++) {
+        a.say(a.x.leaf(4, 0));
+        for (int i = 0; i < 8; i++) {
             a.say(a.x.feed(10 + i));
+            a.say(a.x.assign(i % 5, 0));
         }
     }
 
@@ -179,6 +213,22 @@ public final class RefusalTest {
                 a.say(a.x.alarm(kind, s));
             }
         }
+    }
+
+    /** Shows what stands in the program and in the inputs, and makes no refused call itself. */
+    private static void finish(Actor a, Scene scene) {
+        if (scene.growing) {
+            a.say(a.x.assign(3, 0));
+        }
+        for (int i = 0; i < scene.open; i++) {
+            a.say(a.x.end());
+        }
+        a.say(a.x.look());
+        a.say(a.x.run(5));
+        for (int v = 0; v < 5; v++) {
+            a.say(a.x.number(v));
+        }
+        a.say(a.x.run(60));
     }
 
     /** Shows how many expressions, statements, inputs and open blocks there are. */
@@ -213,22 +263,29 @@ public final class RefusalTest {
         CHECK.same(what + ": first answer that it changed", differ, -1);
     }
 
-    private static void tryIn(String sceneName, Scene scene, Refused refused) {
-        String what = "promise " + refused.promise + ", " + refused.name + ", " + sceneName;
-        for (int later = 0; later < 2; later++) {
+    private static final String[] WHEN = {", at once", ", when it is finished", ", later"};
+
+    private static void goOn(Actor a, Scene scene, int when) {
+        if (when == 1) {
+            finish(a, scene);
+        } else if (when == 2) {
+            goOn(a);
+        }
+        askAll(a);
+    }
+
+    private static void tryIn(Scene scene, Refused refused) {
+        String what = "promise " + refused.promise + ", " + refused.name + ", " + scene.name;
+        for (int when = 0; when < WHEN.length; when++) {
             Actor plain = new Actor();
             Actor tried = new Actor();
-            scene.play(plain);
-            scene.play(tried);
+            scene.play.on(plain);
+            scene.play.on(tried);
             int from = plain.answers.size();
             CHECK.same(what, refused.call.on(tried.x), refused.due);
-            if (later == 1) {
-                goOn(plain);
-                goOn(tried);
-            }
-            askAll(plain);
-            askAll(tried);
-            compare(what + (later == 1 ? ", later" : ", at once"), tried, plain, from);
+            goOn(plain, scene, when);
+            goOn(tried, scene, when);
+            compare(what + WHEN[when], tried, plain, from);
         }
     }
 
@@ -304,12 +361,12 @@ public final class RefusalTest {
     private static void inEachScene() {
         sentence();
         for (Refused r : always()) {
-            tryIn("new object", RefusalTest::nothing, r);
-            tryIn("nothing open", RefusalTest::closed, r);
-            tryIn("first block open", RefusalTest::firstBlock, r);
-            tryIn("second block open", RefusalTest::secondBlock, r);
-            tryIn("loop open", RefusalTest::inLoop, r);
-            tryIn("five open", RefusalTest::fiveOpen, r);
+            tryIn(NOTHING, r);
+            tryIn(CLOSED, r);
+            tryIn(FIRST_BLOCK, r);
+            tryIn(SECOND_BLOCK, r);
+            tryIn(IN_LOOP, r);
+            tryIn(FIVE_OPEN, r);
         }
     }
 
@@ -317,19 +374,19 @@ public final class RefusalTest {
         sentence();
         for (boolean again : new boolean[] {false, true}) {
             Refused r = refused(6, "leave(" + again + ")", -1, x -> x.leave(again));
-            tryIn("new object", RefusalTest::nothing, r);
-            tryIn("nothing open", RefusalTest::closed, r);
-            tryIn("first block open", RefusalTest::firstBlock, r);
-            tryIn("second block open", RefusalTest::secondBlock, r);
+            tryIn(NOTHING, r);
+            tryIn(CLOSED, r);
+            tryIn(FIRST_BLOCK, r);
+            tryIn(SECOND_BLOCK, r);
         }
     }
 
     private static void whileNothingIsOpen() {
         sentence();
         Refused end = refused(11, "end()", 0, x -> of(x.end()));
-        tryIn("new object", RefusalTest::nothing, end);
-        tryIn("nothing open", RefusalTest::closed, end);
-        tryIn("24 statements", RefusalTest::fullClosed, end);
+        tryIn(NOTHING, end);
+        tryIn(CLOSED, end);
+        tryIn(FULL, end);
     }
 
     private static void whileSomethingIsOpen() {
@@ -337,32 +394,32 @@ public final class RefusalTest {
         Refused[] both = {refused(13, "look()", -1, x -> x.look()),
             refused(17, "run(9)", -1, x -> x.run(9)), refused(17, "run(0)", -1, x -> x.run(0))};
         for (Refused r : both) {
-            tryIn("first block open", RefusalTest::firstBlock, r);
-            tryIn("empty first block open", RefusalTest::emptyFirstBlock, r);
-            tryIn("second block open", RefusalTest::secondBlock, r);
-            tryIn("loop open", RefusalTest::inLoop, r);
-            tryIn("five open", RefusalTest::fiveOpen, r);
-            tryIn("24 statements, loop open", RefusalTest::fullInLoop, r);
+            tryIn(FIRST_BLOCK, r);
+            tryIn(EMPTY_FIRST_BLOCK, r);
+            tryIn(SECOND_BLOCK, r);
+            tryIn(IN_LOOP, r);
+            tryIn(FIVE_OPEN, r);
+            tryIn(FULL_IN_LOOP, r);
         }
     }
 
     private static void whileNoFirstBlockIsOpen() {
         sentence();
         Refused otherwise = refused(10, "otherwise()", 0, x -> of(x.otherwise()));
-        tryIn("new object", RefusalTest::nothing, otherwise);
-        tryIn("nothing open", RefusalTest::closed, otherwise);
-        tryIn("second block open", RefusalTest::secondBlock, otherwise);
-        tryIn("loop open", RefusalTest::inLoop, otherwise);
-        tryIn("loop in a first block open", RefusalTest::loopInFirstBlock, otherwise);
+        tryIn(NOTHING, otherwise);
+        tryIn(CLOSED, otherwise);
+        tryIn(SECOND_BLOCK, otherwise);
+        tryIn(IN_LOOP, otherwise);
+        tryIn(LOOP_IN_FIRST_BLOCK, otherwise);
     }
 
     private static void whileFiveAreOpen() {
         sentence();
-        tryIn("five open", RefusalTest::fiveOpen, refused(7, "branch(0)", -1, x -> x.branch(0)));
-        tryIn("five open", RefusalTest::fiveOpen, refused(8, "loop(0)", -1, x -> x.loop(0)));
+        tryIn(FIVE_OPEN, refused(7, "branch(0)", -1, x -> x.branch(0)));
+        tryIn(FIVE_OPEN, refused(8, "loop(0)", -1, x -> x.loop(0)));
         for (int kind = 0; kind <= 4; kind++) {
             int caught = kind;
-            tryIn("five open", RefusalTest::fiveOpen,
+            tryIn(FIVE_OPEN,
                     refused(9, "attempt(" + kind + ")", -1, x -> x.attempt(caught)));
         }
     }
@@ -377,8 +434,8 @@ public final class RefusalTest {
             refused(8, "loop(0)", -1, x -> x.loop(0)),
             refused(9, "attempt(0)", -1, x -> x.attempt(0))};
         for (Refused r : adding) {
-            tryIn("24 statements", RefusalTest::fullClosed, r);
-            tryIn("24 statements, loop open", RefusalTest::fullInLoop, r);
+            tryIn(FULL, r);
+            tryIn(FULL_IN_LOOP, r);
         }
     }
 
@@ -386,12 +443,12 @@ public final class RefusalTest {
         sentence();
         for (int kind = 0; kind < 5; kind++) {
             int k = kind;
-            tryIn("60 expressions", RefusalTest::sixtyExpressions,
+            tryIn(SIXTY_EXPRESSIONS,
                     refused(2, "leaf(" + k + ", 1)", -1, x -> x.leaf(k, 1)));
         }
         for (int operation = 0; operation < 8; operation++) {
             int o = operation;
-            tryIn("60 expressions", RefusalTest::sixtyExpressions,
+            tryIn(SIXTY_EXPRESSIONS,
                     refused(3, "apply(" + o + ", 0, 0)", -1, x -> x.apply(o, 0, 0)));
         }
     }
@@ -399,7 +456,7 @@ public final class RefusalTest {
     private static void whileThereAreEightInputs() {
         sentence();
         for (int n : new int[] {0, 1, BIG, -BIG}) {
-            tryIn("eight inputs", RefusalTest::eightInputs,
+            tryIn(EIGHT_INPUTS,
                     refused(12, "feed(" + n + ")", 0, x -> of(x.feed(n))));
         }
     }
@@ -409,7 +466,7 @@ public final class RefusalTest {
         int[][] operations = {{0, 8, 8}, {6, 8, 0}, {7, 8, 0}, {5, 0, 8}, {5, 8, 0}, {0, 9, 7},
             {1, 7, 9}, {2, 9, 9}};
         for (int[] c : operations) {
-            tryIn("heavy expressions", RefusalTest::heavyExpressions,
+            tryIn(HEAVY,
                     refused(3, "apply(" + c[0] + ", " + c[1] + ", " + c[2] + ")", -1,
                             x -> x.apply(c[0], c[1], c[2])));
         }
@@ -423,7 +480,7 @@ public final class RefusalTest {
             refused(7, "branch(0)", -1, x -> x.branch(0)),
             refused(8, "loop(0)", -1, x -> x.loop(0))};
         for (Refused r : using) {
-            tryIn("new object", RefusalTest::nothing, r);
+            tryIn(NOTHING, r);
         }
     }
 
@@ -431,9 +488,9 @@ public final class RefusalTest {
         sentence();
         for (int kind = 1; kind <= 4; kind++) {
             int k = kind;
-            tryIn("new object", RefusalTest::nothing,
+            tryIn(NOTHING,
                     refused(14, "alarm(" + k + ", 0)", 0, x -> of(x.alarm(k, 0))));
-            tryIn("nothing open", RefusalTest::closed,
+            tryIn(CLOSED,
                     refused(14, "alarm(" + k + ", 0)", 0, x -> of(x.alarm(k, 0))));
         }
     }

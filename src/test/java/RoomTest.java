@@ -45,7 +45,7 @@ public final class RoomTest {
     }
 
     private static void callsOnce(TypeForecast x) {
-        for (int i = 0; i < 100; i++) {
+        for (int i = 0; i < 90; i++) {
             CHECK.same("look", x.look(), 0);
             CHECK.same("run", x.run(1000), -2);
             CHECK.same("seen", x.seen(5, 4), 1);
