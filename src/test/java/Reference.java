@@ -503,19 +503,24 @@ final class Reference {
     }
 
     boolean alarm(int kind, int statement) {
-        return alarms[statement][kind];
+        boolean looked = before != null && statement >= 0 && statement < statements;
+        return looked && kind >= 1 && kind <= 4 && alarms[statement][kind];
     }
 
     private Picture pictureAt(int statement, int v) {
-        Picture[] state = statement < 0 ? behind : before[statement];
+        Picture[] state = before == null ? null : statement == -1 ? behind : before[statement];
         return state == null ? NOTHING : state[v];
     }
 
     int seen(int statement, int v) {
-        return pictureAt(statement, v).types();
+        boolean there = v >= 0 && v < 5 && statement >= -1 && statement < statements;
+        return there ? pictureAt(statement, v).types() : -1;
     }
 
     int bound(int statement, int v, int which) {
+        if (seen(statement, v) == -1 || which < 0 || which > 3) {
+            return 99;
+        }
         Picture p = pictureAt(statement, v);
         int[] bounds = {p.numberLow(), p.numberHigh(), p.lengthLow(), p.lengthHigh()};
         return (p.types() & (which < 2 ? 1 : 2)) == 0 ? 99 : bounds[which];
@@ -647,11 +652,14 @@ final class Reference {
     }
 
     int type(int v) {
+        if (v < 0 || v > 4) {
+            return -1;
+        }
         return variables[v] == null ? 8 : variables[v].type();
     }
 
     int number(int v) {
-        return variables[v] == null ? 0 : (int) variables[v].amount();
+        return type(v) == 1 || type(v) == 2 ? (int) variables[v].amount() : 0;
     }
 
     int statements() {
